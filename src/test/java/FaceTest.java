@@ -1,0 +1,125 @@
+import java.lang.reflect.Constructor;
+import java.lang.reflect.Field;
+import java.lang.reflect.Method;
+import java.lang.reflect.Modifier;
+import java.nio.file.Files;
+import java.nio.file.Path;
+import java.util.ArrayList;
+import java.util.Arrays;
+import java.util.List;
+import java.util.TreeSet;
+import java.util.regex.Matcher;
+import java.util.regex.Pattern;
+
+/** The class has the document's face and no more, and its source keeps to what of LANGUAGE.md can be seen by a machine. */
+public final class FaceTest {
+    private static int wrong = 0;
+
+    private static final String FACE = "feed(int,int,int,int,int)int end(int)boolean zoo()int fault(int)int has(int)int "
+        + "letter(int,int,int)int beast(int,int)int guest(int,int)int between(int,int,int)int asks(int,int)int alone(int)int "
+        + "bring(int)int dress(int,int,int)int tell()int tastes(int)int send(int)int round(int,int)int walk(int,int)int torn()int "
+        + "hours(int)int chance(int)int change(int,int,int,int)boolean train(int,int,int,int)boolean swap(int,int)boolean "
+        + "undo()boolean seed(int)boolean kept(int,int)int image()int octet(int)int on()boolean status(int)int";
+
+    public static void main(String[] args) throws Exception {
+        face();
+        classesInside();
+        source(Files.readString(Path.of("src/main/java/BeastsChoose.java")));
+        System.out.println(wrong == 0 ? "the face is the document's" : wrong + " things are wrong with the face");
+        if (wrong != 0) {
+            System.exit(1);
+        }
+    }
+
+    private static void must(boolean holds, String what) {
+        if (!holds) {
+            wrong++;
+            System.out.println(what);
+        }
+    }
+
+    private static void face() throws Exception {
+        Class<?> c = BeastsChoose.class;
+        must(Modifier.isPublic(c.getModifiers()) && Modifier.isFinal(c.getModifiers()), "the class is not public and final");
+        TreeSet<String> open = new TreeSet<>();
+        TreeSet<String> names = new TreeSet<>();
+        for (Method m : c.getDeclaredMethods()) {
+            if (!Modifier.isPrivate(m.getModifiers())) {
+                List<String> types = new ArrayList<>();
+                for (Class<?> p : m.getParameterTypes()) {
+                    types.add(p.getName());
+                }
+                open.add(m.getName() + "(" + String.join(",", types) + ")" + m.getReturnType().getName());
+                names.add(m.getName());
+                must(Modifier.isPublic(m.getModifiers()) && !Modifier.isStatic(m.getModifiers()), m + " is not as the face has it");
+            }
+        }
+        must(open.equals(new TreeSet<>(Arrays.asList(FACE.split(" ")))), "the open methods are " + open);
+        for (Method m : c.getDeclaredMethods()) {
+            must(!Modifier.isPrivate(m.getModifiers()) || !names.contains(m.getName()), m + " bears the name of a public one");
+        }
+        for (Class<?> inside : c.getDeclaredClasses()) {
+            for (Method m : inside.getDeclaredMethods()) {
+                must(!names.contains(m.getName()), m + " bears the name of a public one");
+            }
+        }
+        Constructor<?>[] constructors = c.getDeclaredConstructors();
+        must(constructors.length == 1 && Modifier.isPublic(constructors[0].getModifiers())
+            && constructors[0].getParameterCount() == 0, "the constructors are not one public one");
+        for (Field f : c.getDeclaredFields()) {
+            must(f.getName().equals("NONE") || Modifier.isPrivate(f.getModifiers()), f + " is open");
+        }
+        must(c.getField("NONE").getInt(null) == -1, "NONE is not -1");
+    }
+
+    private static void classesInside() {
+        Class<?>[] inside = BeastsChoose.class.getDeclaredClasses();
+        must(inside.length <= 12, inside.length + " classes inside");
+        for (Class<?> c : inside) {
+            must(Modifier.isStatic(c.getModifiers()) && !Modifier.isPublic(c.getModifiers()), c + " is not static, or public");
+            count(c);
+        }
+        count(BeastsChoose.class);
+    }
+
+    private static void count(Class<?> c) {
+        int fields = 0;
+        for (Field f : c.getDeclaredFields()) {
+            if (Modifier.isStatic(f.getModifiers())) {
+                must(Modifier.isFinal(f.getModifiers()), f + " is static and not final");
+                must(f.getType().isPrimitive() || f.getType() == String.class, f + " is no constant");
+            } else {
+                fields++;
+            }
+        }
+        must(fields <= 20, c + " has " + fields + " fields");
+        for (Method m : c.getDeclaredMethods()) {
+            must(m.getParameterCount() <= 7, m + " takes too many");
+            must(!m.isSynthetic(), m + " is synthetic: a lambda, perhaps");
+        }
+    }
+
+    private static void source(String text) {
+        String code = text.replaceAll("(?s)/\\*.*?\\*/", "").replaceAll("//[^\n]*", "").replaceAll("\"[^\"\n]*\"", "\"\"");
+        String[] banned = {"throw", "throws", "try", "catch", "synchronized", "assert", "import", "package", "java", "System\\.(?!arraycopy)",
+            "->", "::", "equals", "hashCode", "toString", "Exact", "protected", "volatile", "native", "var", "yield", "\\w+\\[\\]\\[\\]\\[\\]"};
+        for (String b : banned) {
+            Matcher m = Pattern.compile(b.matches("\\w+") ? "\\b" + b + "\\b" : b).matcher(code);
+            must(!m.find(), "the source has " + b);
+        }
+        for (char c : text.toCharArray()) {
+            must(c == '\n' || c >= ' ' && c < 127, "the source has the sign " + (int) c);
+        }
+        int open = -1;
+        String[] lines = text.split("\n");
+        for (int i = 0; i < lines.length; i++) {
+            if (lines[i].matches(" {4}( {4})?(public |private |static )*\\S[^=]*\\) \\{")) {
+                open = i;
+            }
+            if (open >= 0 && lines[i].matches(" {4}( {4})?\\}")) {
+                must(i - open <= 60, "the method in line " + (open + 1) + " is long");
+                open = -1;
+            }
+        }
+    }
+}
