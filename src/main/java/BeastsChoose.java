@@ -1509,12 +1509,10 @@ public final class BeastsChoose {
         private final int[] scene = new int[Formula.SCENE_ROOM];
 
         int liking(Zoo zoo, State state, int beast, int guest) {
-            int suits = state.suits(beast, guest);
-            int saw = state.saw[beast * GUEST_ROOM + guest];
-            if (zoo.likes.length == 0) {
-                return Math.min(MOST_LIKING, suits / (1 + saw));
-            }
             look(state, beast, guest);
+            if (zoo.likes.length == 0) {
+                return Math.min(MOST_LIKING, scene[Formula.SUITS] / (1 + scene[Formula.SAW]));
+            }
             return Math.max(0, Math.min(MOST_LIKING, zoo.likes.valueOf(scene)));
         }
 

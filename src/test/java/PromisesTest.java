@@ -297,6 +297,19 @@ public final class PromisesTest {
         faulty("may 1 and 2;", 1, 6);
         faulty("may suits >", 1, 11);
         faulty("fee 1;" + (char) 233, 1, 6);
+        // A full tape: tokens of one byte each, and the longest sum.
+        faulty(";".repeat(1600), 1, 0);
+        faulty(" ".repeat(1599) + "x", 1, 1599);
+        whole(" ".repeat(1600), 0);
+        String longest = "likes 1" + "+1".repeat(796);
+        whole(longest + ";", 1);
+        faulty(longest + "+", 1, 1600);
+        faulty(longest + " ", 1, 1600);
+        BeastsChoose x = with(ONE + "may " + "not 1=2 and ".repeat(100) + "1=1;likes " + "1+".repeat(140) + "1;");
+        due("between(0, 0, 1) by 141 ones", x.between(0, 0, 1), 141);
+        due("asks(0, 0) by 101 facts", x.asks(0, 0), 0);
+        // In likes no word of may, behind a may neither.
+        faulty("may free=1;likes free;", 1, 17);
     }
 
     private static void faultsOfNames() {
@@ -335,9 +348,9 @@ public final class PromisesTest {
         faulty("keeps 10", 4, 6);
         whole("keeps 2;keeps 9;", 2);
         faulty("fee 100", 4, 4);
-        whole("fee 99;", 1);
+        whole("fee 99;fee 0;", 2);
         faulty("rain 101", 4, 5);
-        whole("rain 100;", 1);
+        whole("rain 100;rain 0;", 2);
     }
 
     private static void faultsOfDepthAndCount() {
@@ -370,6 +383,26 @@ public final class PromisesTest {
         whole(eighty + " \n", 80);
         faulty(eighty + " fee 1;", 6, 481);
         faulty(eighty + "taste x", 6, 480);
+        // What was open at a fault is not open in the next text.
+        BeastsChoose x = new BeastsChoose();
+        due("zoo()", read(x, "likes ((((((( ;"), NONE);
+        due("zoo() behind it", read(x, "likes (((((((1)))))));may [[[[[[[all]]]]]]];"), 2);
+        due("zoo()", read(x, "may not not not not ;"), NONE);
+        due("zoo() behind it", read(x, "may [[[[[[[all]]]]]]];likes (((((((1)))))));"), 2);
+        faulty("may 1=((((((((1", 5, 13);
+        faulty("may 1=2 or 1=((((((((1", 5, 20);
+        faulty("may 1=2 and 1=((((((((1", 5, 21);
+        faulty("likes 1+((((((((1", 5, 15);
+        faulty("likes 1*((((((((1", 5, 15);
+        // The deepest that can stand, with all that can wait at each depth.
+        String deep = "1";
+        for (int i = 0; i < 7; i++) {
+            deep = "if(1=2 or 1=1 and 1<1+1*" + deep + ",1+1*2,3)";
+        }
+        whole("may 1=2 or 1=1 and 1<1+1*" + deep + ";likes " + deep + ";", 2);
+        x = with(ONE + "may 1=2 or 1=1 and 1<1+1*" + deep + ";likes " + deep + ";");
+        due("between(0, 0, 1) by the deepest", x.between(0, 0, 1), 3);
+        due("asks(0, 0) by the deepest", x.asks(0, 0), 0);
         // The first along the text counts.
         faulty("fee 100;x", 4, 4);
         faulty("fee 1 x;fee 100", 1, 6);
@@ -782,6 +815,15 @@ public final class PromisesTest {
         x = with(ONE + "bores 9;");
         x.hours(1);
         due("dress(0, 0, 0), sent back", x.dress(0, 0, 0), NONE);
+        // 0 .. 9 each.
+        x = with(ONE + "likes if(looks+smell+talk=0,5,0);");
+        due("dress(0, 0, 0) down to nothing", x.dress(0, 0, 0), 3);
+        x = with(ONE + "likes if(looks+smell+talk=27,5,0);");
+        due("dress(0, 0, 0) up to all", x.dress(0, 0, 0), 24);
+        x = with(ONE + "likes if(looks>9 or smell>9 or talk>9,5,0);");
+        due("dress(0, 0, 0) beyond 9", x.dress(0, 0, 0), NONE);
+        x = with(ONE + "likes if(looks<0 or smell<0 or talk<0,5,0);");
+        due("dress(0, 0, 0) below 0", x.dress(0, 0, 0), NONE);
     }
 
     private static void tell() {
@@ -899,6 +941,44 @@ public final class PromisesTest {
         due("round(0, 1)", x.round(0, 1), 2);
         due("round(1, 0)", x.round(1, 0), 1);
         due("round(1, 1)", x.round(1, 1), 1);
+        rings();
+    }
+
+    /** So many beasts, each holding the guest of its number (by may); in the SUM, suits / smell is the beast's number and 1. */
+    private static BeastsChoose holders(int count, String likes) {
+        StringBuilder text = new StringBuilder();
+        for (int i = 1; i <= count; i++) {
+            char c = (char) ('a' + i);
+            text.append("beast b").append(c).append(" wakes 0 to 23 at 1;taste b").append(c).append(" 0 ").append(i).append(" 0;");
+            text.append("guest g").append(c).append(' ').append(10 - i).append(' ').append(i).append(" 0 comes 0 to 23;");
+        }
+        return with(text + "likes " + likes + ";may suits=smell*smell;");
+    }
+
+    private static void rounds(BeastsChoose x, int[] gets, int[] rounds) {
+        for (int b = 0; b < gets.length; b++) {
+            due("round(" + b + ", 2)", x.round(b, 2), b);
+            due("round(" + b + ", 0)", x.round(b, 0), gets[b]);
+            due("round(" + b + ", 1)", x.round(b, 1), rounds[b]);
+        }
+    }
+
+    private static void rings() {
+        // All like the guests in one order: one leaves in each round, with its own.
+        rounds(holders(6, "looks"), new int[] {0, 1, 2, 3, 4, 5}, new int[] {1, 2, 3, 4, 5, 6});
+        // One ring of all.
+        rounds(holders(6, "if(smell=suits/smell%6+1,9,1)"), new int[] {1, 2, 3, 4, 5, 0}, new int[] {1, 1, 1, 1, 1, 1});
+        // The second and third swap; the first one waits, then has what is left.
+        rounds(holders(3, "if(suits/smell=1,if(smell=2,9,if(smell=3,5,3)),if(suits/smell=2,if(smell=3,9,2),if(smell=2,9,2)))"),
+            new int[] {0, 2, 1}, new int[] {2, 1, 1});
+        // The first one likes the second guest most, the third one more than its own.
+        rounds(holders(3, "if(suits/smell=1,if(smell=2,9,if(smell=3,5,3)),if(suits/smell=2,if(smell=1,9,2),if(smell=3,9,2)))"),
+            new int[] {1, 0, 2}, new int[] {1, 1, 1});
+        // Of like others the first, but its own ahead of these.
+        rounds(holders(3, "if(suits/smell=1,if(smell=1,1,9),if(suits/smell=2,if(smell=1,9,2),9))"),
+            new int[] {1, 0, 2}, new int[] {1, 1, 1});
+        // Two rings in one round.
+        rounds(holders(4, "if(smell=5-suits/smell,9,1)"), new int[] {3, 2, 1, 0}, new int[] {1, 1, 1, 1});
     }
 
     private static void walk() {
@@ -1260,6 +1340,14 @@ public final class PromisesTest {
             due("octet(" + k + ")", x.octet(k), want[k]);
         }
         due("fees above 255", want[3] > 0, true);
+        StringBuilder most = new StringBuilder();
+        for (int i = 0; i < 8; i++) {
+            most.append("guest g").append((char) ('a' + i)).append(" 1 1 1 comes 0 to 1;");
+            if (i < 6) {
+                most.append("beast b").append((char) ('a' + i)).append(" wakes 0 to 1 at 1;");
+            }
+        }
+        due("image() of all that can be", with(most.toString()).image(), 5 + 40 + 6 * 19 + 1);
         due("image() is no act", x.has(9), 5);
     }
 
