@@ -33,8 +33,8 @@ public final class BeastsChoose {
     private static final int REFUSED_UNDO = 4;
     private static final int REFUSED_OTHER = 5;
 
-    private final Tape tape = new Tape();
-    private final Parser parser = new Parser(tape);
+    private final Parser parser = new Parser();
+    private final Tape tape = parser.tape;
     private final State now = new State();
     private final State ahead = new State();
     private final State[] past = new State[UNDO_ROOM];
@@ -923,9 +923,9 @@ public final class BeastsChoose {
         static final int TOO_DEEP = 5;
         static final int TOO_MANY = 6;
 
+        final Tape tape = new Tape();
         int fault;
         int faultPlace = NONE;
-        private final Tape tape;
         private Zoo zoo;
         private Formula formula;
         private boolean isInMay;
@@ -934,10 +934,6 @@ public final class BeastsChoose {
         private int at;
         /** The number, name, beast or guest that was read last. */
         private int read;
-
-        Parser(Tape text) {
-            tape = text;
-        }
 
         int parse(Zoo into) {
             zoo = into;
@@ -1053,6 +1049,7 @@ public final class BeastsChoose {
                 return false;
             }
             if (zoo.isFeared(read, guest)) {
+                // The fault stands at the beast, which is taken already.
                 at--;
                 return fail(NAME_UNKNOWN);
             }
