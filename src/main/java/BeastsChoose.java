@@ -963,7 +963,7 @@ public final class BeastsChoose {
 
         private boolean fail(int why) {
             fault = why;
-            faultPlace = why == NO_ZOO && kind() == Tape.BAD ? tape.badPlace : tape.starts[at];
+            faultPlace = why == NO_ZOO && tape.kinds[at] == Tape.BAD ? tape.badPlace : tape.starts[at];
             return false;
         }
 
