@@ -24,7 +24,9 @@ public final class FaceTest {
     public static void main(String[] args) throws Exception {
         face();
         classesInside();
-        source(Files.readString(Path.of("src/main/java/BeastsChoose.java")));
+        String text = Files.readString(Path.of("src/main/java/BeastsChoose.java"));
+        source(text);
+        parts(text);
         System.out.println(wrong == 0 ? "the face is the document's" : wrong + " things are wrong with the face");
         if (wrong != 0) {
             System.exit(1);
@@ -70,6 +72,21 @@ public final class FaceTest {
             must(f.getName().equals("NONE") || Modifier.isPrivate(f.getModifiers()), f + " is open");
         }
         must(c.getField("NONE").getInt(null) == -1, "NONE is not -1");
+    }
+
+    /** Ahead of which calls the interface says what. */
+    private static void parts(String text) {
+        String[][] parts = {{"ahead", "asks"}, {"tastes, rings, walks, registers", "tell"}, {"acts", "hours"}, {"images, refusals", "image"}};
+        for (String[] part : parts) {
+            Matcher m = Pattern.compile("// ---- " + part[0] + "\\s+public \\w+ " + part[1] + "\\(").matcher(text);
+            must(m.find(), "the interface does not say \"---- " + part[0] + "\" ahead of " + part[1]);
+        }
+        Matcher order = Pattern.compile("(?m)^    public (?:int|boolean) (\\w+)\\(").matcher(text);
+        StringBuilder found = new StringBuilder();
+        while (order.find()) {
+            found.append(order.group(1)).append(' ');
+        }
+        must(found.toString().trim().equals(FACE.replaceAll("\\([^)]*\\)\\w+", "")), "the calls are not in the face's order: " + found);
     }
 
     private static void classesInside() {

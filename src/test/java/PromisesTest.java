@@ -1,15 +1,12 @@
+import java.util.Arrays;
+
 /**
  * Each promise of the document by hand: ordinary inputs, the edges that it names, wrong inputs.
  * The answers that are due were worked out from the document's words, not from the program.
  */
-public final class PromisesTest {
-    private static final int NONE = -1;
-    private static int wrong = 0;
-    private static int promise = 0;
-
+public final class PromisesTest extends Answers {
     private static final String PAIR = "beast lion wakes 0 to 5 at 10;beast seal wakes 2 to 23 at 4;taste lion 3 0 1;"
         + "guest ann 5 2 1 comes 0 to 8;guest bob 1 9 4 comes 0 to 3;guest cy 8 0 0 comes 1 to 23;fears bob lion;";
-    private static final String ONE = "beast a wakes 0 to 23 at 1;guest g 1 1 1 comes 0 to 23;";
 
     public static void main(String[] args) {
         newObject();
@@ -51,77 +48,12 @@ public final class PromisesTest {
         octet();
         on();
         status();
-        System.out.println(wrong == 0 ? "all promises hold" : wrong + " answers are not as due");
-        if (wrong != 0) {
-            System.exit(1);
-        }
-    }
-
-    private static void due(String what, int got, int want) {
-        if (got != want) {
-            wrong++;
-            System.out.println("promise " + promise + ": " + what + " answered " + got + ", due is " + want);
-        }
-    }
-
-    private static void due(String what, boolean got, boolean want) {
-        due(what, got ? 1 : 0, want ? 1 : 0);
-    }
-
-    private static void put(BeastsChoose x, int... bytes) {
-        int before = 0;
-        for (int i = 0; i < bytes.length || i == 0; i += 20) {
-            int[] n = new int[5];
-            for (int k = 0; k < 20; k++) {
-                n[k / 4] = n[k / 4] << 8 | (i + k < bytes.length ? bytes[i + k] & 255 : 0);
-            }
-            before = x.feed(n[0], n[1], n[2], n[3], n[4]);
-        }
-        if (before < bytes.length || !x.end(bytes.length)) {
-            throw new IllegalStateException("the tape was not empty, or not long enough");
-        }
-    }
-
-    private static int read(BeastsChoose x, String text) {
-        put(x, text.chars().toArray());
-        return x.zoo();
-    }
-
-    private static BeastsChoose with(String text) {
-        BeastsChoose x = new BeastsChoose();
-        int statements = read(x, text);
-        if (statements < 0) {
-            due("zoo() of " + text + ": fault " + x.fault(0) + " at " + x.fault(1), statements, 0);
-        }
-        return x;
-    }
-
-    private static void faulty(String text, int kind, int place) {
-        BeastsChoose x = new BeastsChoose();
-        due("zoo() of " + text, read(x, text), NONE);
-        due("fault(0) of " + text, x.fault(0), kind);
-        due("fault(1) of " + text, x.fault(1), place);
-    }
-
-    private static void whole(String text, int statements) {
-        due("zoo() of " + text, read(new BeastsChoose(), text), statements);
-    }
-
-    /** How beast 0 likes guest 0 by a SUM: traits 7 3 2, tastes 5 1 0 (38 suits). */
-    private static void likes(String sum, int want) {
-        BeastsChoose x = with("beast a wakes 0 to 23 at 1;taste a 5 1 0;guest g 7 3 2 comes 0 to 23;likes " + sum + ";");
-        due("between(0, 0, 1) by " + sum, x.between(0, 0, 1), want);
-    }
-
-    /** Whether beast 0 asks for guest 0 by a TEST: traits 7 3 2, tastes 5 1 0, 6 ushers, no fear. */
-    private static void may(String test, boolean want) {
-        BeastsChoose x = with("beast a wakes 0 to 23 at 1;taste a 5 1 0;guest g 7 3 2 comes 0 to 23;may " + test + ";");
-        due("asks(0, 0) by " + test, x.asks(0, 0), want ? 0 : NONE);
+        finish("all promises hold");
     }
 
     private static void newObject() {
-        promise = 1;
-        BeastsChoose x = new BeastsChoose();
+        about = "promise 1";
+        Counted x = new Counted();
         int[] first = {0, 0, 0, 0, 6, 0, 0, 0, 0, 0, 1, 0};
         for (int w = 0; w < first.length; w++) {
             due("has(" + w + ")", x.has(w), first[w]);
@@ -138,8 +70,8 @@ public final class PromisesTest {
     }
 
     private static void feed() {
-        promise = 2;
-        BeastsChoose x = new BeastsChoose();
+        about = "promise 2";
+        Counted x = new Counted();
         for (int i = 1; i <= 80; i++) {
             due("feed " + i, x.feed(0x20202020, 0x20202020, 0x20202020, 0x20202020, 0x20202020), 20 * i);
         }
@@ -151,7 +83,7 @@ public final class PromisesTest {
         due("feed up to 1600", x.feed(0, 0, 0, 0, 0), 1600);
         due("status(0)", x.status(0), 2);
         // "fee 7;" and "rain 9;" in four bytes a number, the highest first, bytes above 127 too.
-        x = new BeastsChoose();
+        x = new Counted();
         x.feed(0x66656520, 0x373b7261, 0x696e2039, 0x3b202020, 0xff202020);
         x.end(17);
         due("zoo()", x.zoo(), NONE);
@@ -162,8 +94,8 @@ public final class PromisesTest {
     }
 
     private static void end() {
-        promise = 3;
-        BeastsChoose x = new BeastsChoose();
+        about = "promise 3";
+        Counted x = new Counted();
         due("end(0)", x.end(0), true);
         due("end(1)", x.end(1), false);
         due("end(-1)", x.end(-1), false);
@@ -178,20 +110,20 @@ public final class PromisesTest {
     }
 
     private static void zoo() {
-        promise = 4;
-        BeastsChoose x = new BeastsChoose();
+        about = "promise 4";
+        Counted x = new Counted();
         due("zoo() of nothing", x.zoo(), 0);
-        due("zoo() of blanks", read(x, " \n \n"), 0);
-        due("zoo()", read(x, PAIR), 7);
+        due("zoo() of blanks", x.read(" \n \n"), 0);
+        due("zoo()", x.read(PAIR), 7);
         due("feed behind zoo()", x.feed(0, 0, 0, 0, 0), 20);
         due("end", x.end(0), true);
         x.seed(77);
         x.hours(30);
         x.change(0, 1, 1, 1);
         x.train(0, 1, 1, 1);
-        put(x, 0, 1);
+        x.put(0, 1);
         due("tell()", x.tell(), 1);
-        due("zoo() with a fault", read(x, "fee 1;fee"), NONE);
+        due("zoo() with a fault", x.read("fee 1;fee"), NONE);
         due("feed behind a fault", x.feed(0, 0, 0, 0, 0), 20);
         due("end", x.end(0), true);
         due("status(1)", x.status(1), 1);
@@ -202,7 +134,7 @@ public final class PromisesTest {
         due("has(9) behind a fault", x.has(9), 3);
         due("has(11) behind a fault", x.has(11), 1);
         due("guest(0, 0) behind a fault", x.guest(0, 0), 1);
-        due("zoo() again", read(x, PAIR), 7);
+        due("zoo() again", x.read(PAIR), 7);
         int[] anew = {2, 3, 0, 0, 6, 0, 2, 0, 0, 0, 77, 0};
         for (int w = 0; w < anew.length; w++) {
             due("has(" + w + ") anew", x.has(w), anew[w]);
@@ -212,19 +144,19 @@ public final class PromisesTest {
         due("between(1, 2, 2) anew", x.between(1, 2, 2), 0);
         due("undo() anew", x.undo(), false);
         // What the last one told is gone in another zoo.
-        read(x, "ushers 2;rain 100;likes 7;may 1=2;" + ONE);
+        x.read("ushers 2;rain 100;likes 7;may 1=2;" + ONE);
         due("asks by may", x.asks(0, 0), NONE);
-        read(x, ONE);
+        x.read(ONE);
         due("has(4) without", x.has(4), 6);
         due("likes without", x.between(0, 0, 1), 3);
         due("asks without", x.asks(0, 0), 0);
         due("chance without rain", x.chance(5), 0);
         // The last one of each counts; a guest's fear is not another guest's of the same number.
-        read(x, "ushers 1;ushers 4;" + ONE + "taste a 1 2 3;taste a 4 5 6;fears g a;");
+        x.read("ushers 1;ushers 4;" + ONE + "taste a 1 2 3;taste a 4 5 6;fears g a;");
         due("has(4)", x.has(4), 4);
         due("beast(0, 4)", x.beast(0, 4), 5);
         due("guest(0, 5)", x.guest(0, 5), 1);
-        read(x, ONE);
+        x.read(ONE);
         due("guest(0, 5)", x.guest(0, 5), 0);
         due("beast(0, 4)", x.beast(0, 4), 1);
         // Blanks where one likes, none where signs are.
@@ -233,7 +165,7 @@ public final class PromisesTest {
     }
 
     private static void faultsOfGrammar() {
-        promise = 5;
+        about = "promise 5";
         faulty("x", 1, 0);
         faulty("wakes 1;", 1, 0);
         faulty(";", 1, 0);
@@ -305,7 +237,7 @@ public final class PromisesTest {
         whole(longest + ";", 1);
         faulty(longest + "+", 1, 1600);
         faulty(longest + " ", 1, 1600);
-        BeastsChoose x = with(ONE + "may " + "not 1=2 and ".repeat(100) + "1=1;likes " + "1+".repeat(140) + "1;");
+        Counted x = with(ONE + "may " + "not 1=2 and ".repeat(100) + "1=1;likes " + "1+".repeat(140) + "1;");
         due("between(0, 0, 1) by 141 ones", x.between(0, 0, 1), 141);
         due("asks(0, 0) by 101 facts", x.asks(0, 0), 0);
         // In likes no word of may, behind a may neither.
@@ -384,11 +316,11 @@ public final class PromisesTest {
         faulty(eighty + " fee 1;", 6, 481);
         faulty(eighty + "taste x", 6, 480);
         // What was open at a fault is not open in the next text.
-        BeastsChoose x = new BeastsChoose();
-        due("zoo()", read(x, "likes ((((((( ;"), NONE);
-        due("zoo() behind it", read(x, "likes (((((((1)))))));may [[[[[[[all]]]]]]];"), 2);
-        due("zoo()", read(x, "may not not not not ;"), NONE);
-        due("zoo() behind it", read(x, "may [[[[[[[all]]]]]]];likes (((((((1)))))));"), 2);
+        Counted x = new Counted();
+        due("zoo()", x.read("likes ((((((( ;"), NONE);
+        due("zoo() behind it", x.read("likes (((((((1)))))));may [[[[[[[all]]]]]]];"), 2);
+        due("zoo()", x.read("may not not not not ;"), NONE);
+        due("zoo() behind it", x.read("may [[[[[[[all]]]]]]];likes (((((((1)))))));"), 2);
         faulty("may 1=((((((((1", 5, 13);
         faulty("may 1=2 or 1=((((((((1", 5, 20);
         faulty("may 1=2 and 1=((((((((1", 5, 21);
@@ -409,21 +341,21 @@ public final class PromisesTest {
     }
 
     private static void faultOfLatest() {
-        BeastsChoose x = new BeastsChoose();
+        Counted x = new Counted();
         due("fault(0) ahead of any", x.fault(0), 0);
         due("fault(1) ahead of any", x.fault(1), NONE);
-        read(x, "fee 100");
+        x.read("fee 100");
         due("fault(2)", x.fault(2), NONE);
         due("fault(-1)", x.fault(-1), NONE);
         due("fault(0)", x.fault(0), 4);
-        read(x, "fee 1;");
+        x.read("fee 1;");
         due("fault(0) without", x.fault(0), 0);
         due("fault(1) without", x.fault(1), NONE);
     }
 
     private static void has() {
-        promise = 6;
-        BeastsChoose x = with(PAIR + "ushers 3;fee 7;keeps 2;");
+        about = "promise 6";
+        Counted x = with(PAIR + "ushers 3;fee 7;keeps 2;");
         int[] first = {2, 3, 0, 0, 3, 0, 2, 0, 0, 0, 1, 0};
         for (int w = 0; w < first.length; w++) {
             due("has(" + w + ")", x.has(w), first[w]);
@@ -460,8 +392,8 @@ public final class PromisesTest {
     }
 
     private static void letter() {
-        promise = 7;
-        BeastsChoose x = with("beast az wakes 0 to 1 at 1;beast zyxwvu wakes 0 to 1 at 1;guest q 1 1 1 comes 1 to 1;");
+        about = "promise 7";
+        Counted x = with("beast az wakes 0 to 1 at 1;beast zyxwvu wakes 0 to 1 at 1;guest q 1 1 1 comes 1 to 1;");
         int[][] names = {{1, 26, 0, 0, 0, 0}, {26, 25, 24, 23, 22, 21}};
         for (int b = 0; b < 2; b++) {
             for (int k = 0; k < 6; k++) {
@@ -480,8 +412,8 @@ public final class PromisesTest {
     }
 
     private static void beast() {
-        promise = 8;
-        BeastsChoose x = with(PAIR);
+        about = "promise 8";
+        Counted x = with(PAIR);
         int[][] want = {{0, 5, 10, 3, 0, 1, 1, NONE}, {2, 23, 4, 1, 1, 1, 0, NONE}};
         for (int b = 0; b < 2; b++) {
             for (int w = 0; w < 8; w++) {
@@ -507,8 +439,8 @@ public final class PromisesTest {
     }
 
     private static void guest() {
-        promise = 9;
-        BeastsChoose x = with(PAIR);
+        about = "promise 9";
+        Counted x = with(PAIR);
         int[][] want = {{5, 2, 1, 0, 8, 0, 0, NONE}, {1, 9, 4, 0, 3, 1, 0, NONE}, {8, 0, 0, 1, 23, 0, 0, NONE}};
         for (int g = 0; g < 3; g++) {
             for (int w = 0; w < 8; w++) {
@@ -531,8 +463,8 @@ public final class PromisesTest {
     }
 
     private static void between() {
-        promise = 10;
-        BeastsChoose x = with("beast a wakes 0 to 23 at 1;taste a 5 1 3;guest g 7 3 2 comes 0 to 23;keeps 9;");
+        about = "promise 10";
+        Counted x = with("beast a wakes 0 to 23 at 1;taste a 5 1 3;guest g 7 3 2 comes 0 to 23;keeps 9;");
         due("between(0, 0, 0)", x.between(0, 0, 0), 44);
         due("between(0, 0, 1)", x.between(0, 0, 1), 44);
         x.hours(2);
@@ -592,7 +524,7 @@ public final class PromisesTest {
         likes("if(not all,7,if(all,9,8))", 9);
         likes("if(suits>37 and suits<39,1,0)", 1);
         // Saw and hour as they go.
-        BeastsChoose x = with(ONE + "likes 100+saw*10+hour;keeps 9;bores 0;");
+        Counted x = with(ONE + "likes 100+saw*10+hour;keeps 9;bores 0;");
         x.hours(3);
         due("between(0, 0, 1)", x.between(0, 0, 1), 133);
     }
@@ -615,7 +547,7 @@ public final class PromisesTest {
         may("free<6", false);
         may("suits=38 and looks=7 and smell=3 and talk=2 and hour=0 and saw=0", true);
         may("liking=if(all,38,1)", true);
-        BeastsChoose x = with("beast a wakes 0 to 23 at 1;beast b wakes 0 to 23 at 1;beast c wakes 0 to 23 at 1;"
+        Counted x = with("beast a wakes 0 to 23 at 1;beast b wakes 0 to 23 at 1;beast c wakes 0 to 23 at 1;"
             + "guest g 1 1 1 comes 0 to 23;guest h 1 1 1 comes 0 to 23;guest i 1 1 1 comes 0 to 23;fears g b;"
             + "ushers 3;may free=3 or fears=1 or free=1 and talk=1 and not fears=1;");
         due("asks(0, 0)", x.asks(0, 0), 0);
@@ -627,8 +559,8 @@ public final class PromisesTest {
     }
 
     private static void asks() {
-        promise = 11;
-        BeastsChoose x = with(PAIR);
+        about = "promise 11";
+        Counted x = with(PAIR);
         // Hour 0: lion likes ann 16, bob 7; seal sleeps. Hour 1: ann 8, bob 7, cy 24; hour 2: cy 12, ann 8.
         due("asks(0, 0)", x.asks(0, 0), 0);
         due("asks(1, 0)", x.asks(1, 0), NONE);
@@ -644,36 +576,14 @@ public final class PromisesTest {
         due("has(5)", x.has(5), 0);
         due("has(8)", x.has(8), 0);
         due("has(9)", x.has(9), 0);
-        toMoment(x, 999, 21);
+        x.toMoment(999, 21);
         due("asks(0, 2)", x.asks(0, 2), 0);
         due("asks(0, 3) beyond day 999", x.asks(0, 3), NONE);
     }
 
-    private static void toMoment(BeastsChoose x, int day, int hour) {
-        int n = x.image();
-        int[] bytes = new int[n];
-        for (int i = 0; i < n; i++) {
-            bytes[i] = x.octet(i);
-        }
-        bytes[0] = day / 256;
-        bytes[1] = day % 256;
-        bytes[2] = hour;
-        check(bytes);
-        put(x, bytes);
-        due("on()", x.on(), true);
-    }
-
-    private static void check(int[] bytes) {
-        int c = 151;
-        for (int i = 0; i < bytes.length - 1; i++) {
-            c = (5 * c + bytes[i]) % 251;
-        }
-        bytes[bytes.length - 1] = c;
-    }
-
     private static void askingRules() {
         // Of like ones the first; one asked for is not asked for again in the hour; ushers run out.
-        BeastsChoose x = with("beast a wakes 0 to 23 at 1;beast b wakes 0 to 23 at 1;beast c wakes 0 to 23 at 1;"
+        Counted x = with("beast a wakes 0 to 23 at 1;beast b wakes 0 to 23 at 1;beast c wakes 0 to 23 at 1;"
             + "guest g 1 1 1 comes 0 to 23;guest h 1 1 1 comes 0 to 23;guest i 1 1 2 comes 0 to 23;ushers 2;");
         due("asks(0, 0)", x.asks(0, 0), 2);
         due("asks(1, 0)", x.asks(1, 0), 0);
@@ -712,8 +622,8 @@ public final class PromisesTest {
     }
 
     private static void alone() {
-        promise = 12;
-        BeastsChoose x = with("beast a wakes 3 to 23 at 1;beast b wakes 1 to 2 at 1;guest g 1 1 1 comes 0 to 4;guest h 1 1 1 comes 4 to 5;likes 5;keeps 9;");
+        about = "promise 12";
+        Counted x = with("beast a wakes 3 to 23 at 1;beast b wakes 1 to 2 at 1;guest g 1 1 1 comes 0 to 4;guest h 1 1 1 comes 4 to 5;likes 5;keeps 9;");
         due("alone(0)", x.alone(0), 6);
         due("alone(1)", x.alone(1), 0);
         due("alone(2)", x.alone(2), NONE);
@@ -731,15 +641,15 @@ public final class PromisesTest {
         due("alone(0), the sixth day's hour 3 is the 123rd", x.alone(0), NONE);
         x.hours(24);
         due("alone(0) by then", x.alone(0), 99);
-        toMoment(x, 998, 0);
+        x.toMoment(998, 0);
         due("alone(0) beyond day 999", x.alone(0), NONE);
     }
 
     private static void bring() {
-        promise = 13;
+        about = "promise 13";
         String three = "beast a wakes 0 to 23 at 1;beast b wakes 0 to 23 at 1;beast c wakes 5 to 23 at 1;taste a 1 0 0;taste b 0 1 0;"
             + "guest g 9 8 1 comes 0 to 23;guest h 5 1 1 comes 0 to 23;guest i 9 9 9 comes 1 to 23;";
-        BeastsChoose x = with(three);
+        Counted x = with(three);
         // g to b and h to a: 8 + 5, more than g to a and h to b: 9 + 1.
         due("bring(NONE)", x.bring(NONE), 13);
         due("bring(0)", x.bring(0), 1);
@@ -773,8 +683,8 @@ public final class PromisesTest {
     }
 
     private static void dress() {
-        promise = 14;
-        BeastsChoose x = with("beast a wakes 0 to 22 at 1;taste a 2 1 1;guest g 3 3 3 comes 0 to 23;guest h 3 3 5 comes 0 to 23;");
+        about = "promise 14";
+        Counted x = with("beast a wakes 0 to 22 at 1;taste a 2 1 1;guest g 3 3 3 comes 0 to 23;guest h 3 3 5 comes 0 to 23;");
         // g suits 12, h 14: g must reach 14 (the first of like ones): looks and one.
         int[] want = {1, 4, 3, 3};
         for (int w = 0; w < 4; w++) {
@@ -827,18 +737,18 @@ public final class PromisesTest {
     }
 
     private static void tell() {
-        promise = 15;
-        BeastsChoose x = with(PAIR);
+        about = "promise 15";
+        Counted x = with(PAIR);
         due("tell() of nothing", x.tell(), NONE);
-        put(x, 0, 1, 2);
+        x.put(0, 1, 2);
         due("tell() of three", x.tell(), NONE);
-        put(x, 0, 3);
+        x.put(0, 3);
         due("tell() of no guest", x.tell(), NONE);
-        put(x, 255, 0);
+        x.put(255, 0);
         due("tell() of no guest", x.tell(), NONE);
-        put(x, 0, 1, 1, 1);
+        x.put(0, 1, 1, 1);
         due("tell() of one twice", x.tell(), NONE);
-        put(x, new int[34]);
+        x.put(new int[34]);
         due("tell() of 17", x.tell(), NONE);
         due("status(5)", x.status(5), 6);
         due("has(11)", x.has(11), 0);
@@ -846,21 +756,21 @@ public final class PromisesTest {
         for (int i = 0; i < 32; i += 2) {
             sixteen[i] = 1;
         }
-        put(x, sixteen);
+        x.put(sixteen);
         due("tell() of 16", x.tell(), 16);
         due("has(11)", x.has(11), 16);
-        put(x, 0, 3);
+        x.put(0, 3);
         due("tell() of no guest", x.tell(), NONE);
         due("has(11) stays", x.has(11), 16);
         due("the tape goes", x.end(1), false);
-        put(x, 2, 0);
+        x.put(2, 0);
         due("tell()", x.tell(), 1);
         due("has(11)", x.has(11), 1);
     }
 
     private static void tastes() {
-        promise = 16;
-        BeastsChoose x = with("guest g 5 0 0 comes 0 to 1;guest h 4 1 0 comes 0 to 1;guest i 5 0 0 comes 0 to 1;");
+        about = "promise 16";
+        Counted x = with("guest g 5 0 0 comes 0 to 1;guest h 4 1 0 comes 0 to 1;guest i 5 0 0 comes 0 to 1;");
         due("tastes(0) of all", x.tastes(0), 1000);
         for (int w = 1; w <= 3; w++) {
             due("tastes(" + w + ")", x.tastes(w), 0);
@@ -868,14 +778,14 @@ public final class PromisesTest {
         }
         due("tastes(7)", x.tastes(7), NONE);
         due("tastes(-1)", x.tastes(-1), NONE);
-        put(x, 0, 1);
+        x.put(0, 1);
         x.tell();
         // Looks more than smell: 45 of 100, times 10.
         int[] want = {450, 1, 0, 0, 9, 8, 9};
         for (int w = 0; w < 7; w++) {
             due("tastes(" + w + ")", x.tastes(w), want[w]);
         }
-        put(x, 0, 2);
+        x.put(0, 2);
         x.tell();
         due("tastes(0) of none", x.tastes(0), 0);
         for (int w = 1; w <= 6; w++) {
@@ -886,8 +796,8 @@ public final class PromisesTest {
     }
 
     private static void send() {
-        promise = 17;
-        BeastsChoose x = with("guest g 1 0 0 comes 0 to 1;");
+        about = "promise 17";
+        Counted x = with("guest g 1 0 0 comes 0 to 1;");
         due("send(0) of one guest", x.send(0), NONE);
         due("send(2) of one guest", x.send(2), NONE);
         x = with("guest g 1 0 0 comes 0 to 1;guest h 1 0 0 comes 0 to 1;guest i 0 1 0 comes 0 to 1;guest j 0 0 1 comes 0 to 1;");
@@ -897,12 +807,12 @@ public final class PromisesTest {
         due("send(2)", x.send(2), 450);
         due("send(3)", x.send(3), NONE);
         due("send(-1)", x.send(-1), NONE);
-        put(x, 0, 1);
+        x.put(0, 1);
         x.tell();
         due("send(0) without a taste", x.send(0), NONE);
         due("send(1) without a taste", x.send(1), NONE);
         due("send(2) without a taste", x.send(2), NONE);
-        put(x, 0, 2);
+        x.put(0, 2);
         x.tell();
         // Looks above smell: 450 left. Looks against talk: sum of l * l = 285, of l * (9 - l) = 120, of l = 45.
         due("send(0)", x.send(0), 0);
@@ -911,9 +821,9 @@ public final class PromisesTest {
     }
 
     private static void round() {
-        promise = 18;
+        about = "promise 18";
         // Held: by may a holds g, b holds h; each likes the other's more.
-        BeastsChoose x = with("beast a wakes 0 to 23 at 1;beast b wakes 0 to 23 at 2;beast c wakes 1 to 23 at 3;"
+        Counted x = with("beast a wakes 0 to 23 at 1;beast b wakes 0 to 23 at 2;beast c wakes 1 to 23 at 3;"
             + "taste a 0 1 0;taste b 1 0 0;guest g 9 1 0 comes 0 to 23;guest h 1 9 0 comes 0 to 23;"
             + "may suits<5;");
         int[][] want = {{1, 1, 0}, {0, 1, 1}, {NONE, NONE, NONE}};
@@ -944,25 +854,6 @@ public final class PromisesTest {
         rings();
     }
 
-    /** So many beasts, each holding the guest of its number (by may); in the SUM, suits / smell is the beast's number and 1. */
-    private static BeastsChoose holders(int count, String likes) {
-        StringBuilder text = new StringBuilder();
-        for (int i = 1; i <= count; i++) {
-            char c = (char) ('a' + i);
-            text.append("beast b").append(c).append(" wakes 0 to 23 at 1;taste b").append(c).append(" 0 ").append(i).append(" 0;");
-            text.append("guest g").append(c).append(' ').append(10 - i).append(' ').append(i).append(" 0 comes 0 to 23;");
-        }
-        return with(text + "likes " + likes + ";may suits=smell*smell;");
-    }
-
-    private static void rounds(BeastsChoose x, int[] gets, int[] rounds) {
-        for (int b = 0; b < gets.length; b++) {
-            due("round(" + b + ", 2)", x.round(b, 2), b);
-            due("round(" + b + ", 0)", x.round(b, 0), gets[b]);
-            due("round(" + b + ", 1)", x.round(b, 1), rounds[b]);
-        }
-    }
-
     private static void rings() {
         // All like the guests in one order: one leaves in each round, with its own.
         rounds(holders(6, "looks"), new int[] {0, 1, 2, 3, 4, 5}, new int[] {1, 2, 3, 4, 5, 6});
@@ -982,13 +873,13 @@ public final class PromisesTest {
     }
 
     private static void walk() {
-        promise = 19;
+        about = "promise 19";
         StringBuilder text = new StringBuilder();
         int[] places = {10, 9, 8, 7, 6, 99};
         for (int i = 0; i < 6; i++) {
             text.append("beast b").append((char) ('a' + i)).append(" wakes 0 to 1 at ").append(places[i]).append(';');
         }
-        BeastsChoose x = with(text.toString());
+        Counted x = with(text.toString());
         due("walk(0, 1)", x.walk(0, 1), 0);
         due("walk(1, 1)", x.walk(1, 1), 20);
         due("walk(31, 1)", x.walk(31, 1), 80);
@@ -1011,57 +902,57 @@ public final class PromisesTest {
     }
 
     private static void torn() {
-        promise = 20;
-        BeastsChoose x = with("beast a wakes 0 to 23 at 1;beast b wakes 0 to 23 at 2;guest g 1 1 1 comes 0 to 23;guest h 1 1 1 comes 2 to 23;"
+        about = "promise 20";
+        Counted x = with("beast a wakes 0 to 23 at 1;beast b wakes 0 to 23 at 2;guest g 1 1 1 comes 0 to 23;guest h 1 1 1 comes 2 to 23;"
             + "likes 5;keeps 9;fears h b;");
         // a sees g in each hour up to the 9th; b asks for h from hour 2 on, who refuses.
         due("torn() of nothing", x.torn(), NONE);
-        put(x, 0, 0, 0);
+        x.put(0, 0, 0);
         due("torn() of three", x.torn(), NONE);
-        put(x, 2, 0);
+        x.put(2, 0);
         due("torn() of no beast", x.torn(), NONE);
-        put(x, 0, 2);
+        x.put(0, 2);
         due("torn() of no guest", x.torn(), NONE);
-        put(x, new int[34]);
+        x.put(new int[34]);
         due("torn() of 17", x.torn(), NONE);
         due("status(5)", x.status(5), 5);
-        put(x, 0, 0);
+        x.put(0, 0);
         due("torn()", x.torn(), 1);
         due("the tape goes", x.end(1), false);
-        put(x, 0, 0, 0, 0, 0, 0);
+        x.put(0, 0, 0, 0, 0, 0);
         due("torn() of three hours", x.torn(), 3);
-        put(x, 1, 1);
+        x.put(1, 1);
         due("torn() of who refuses", x.torn(), NONE);
         // Behind the 9th hour g is kept: a has h, b none. 16 rows: g 9 times, h 7 times.
         int[] rows = new int[32];
         for (int i = 19; i < 32; i += 2) {
             rows[i] = 1;
         }
-        put(x, rows);
+        x.put(rows);
         due("torn() of 16", x.torn(), 16);
-        put(x, 0, 1, 0, 0);
+        x.put(0, 1, 0, 0);
         due("torn() in another order: h of one day, g of the next", x.torn(), 25);
         due("status(5)", x.status(5), 5);
         due("has(3)", x.has(3), 0);
-        toMoment(x, 999, 21);
-        put(x, 0, 0, 0, 0);
+        x.toMoment(999, 21);
+        x.put(0, 0, 0, 0);
         due("torn() up to day 999, hour 23", x.torn(), 2);
-        put(x, 0, 0, 0, 0, 0, 0);
+        x.put(0, 0, 0, 0, 0, 0);
         due("torn() beyond it", x.torn(), NONE);
         // By the 100th hour at the latest.
         x = with("beast a wakes 4 to 4 at 1;guest g 1 1 1 comes 0 to 23;likes 5;");
-        put(x, 0, 0, 0, 0, 0, 0, 0, 0);
+        x.put(0, 0, 0, 0, 0, 0, 0, 0);
         due("torn() in the 77th", x.torn(), 77);
-        put(x, new int[10]);
+        x.put(new int[10]);
         due("torn() in the 101st", x.torn(), NONE);
         x.hours(1);
-        put(x, new int[10]);
+        x.put(new int[10]);
         due("torn() in the 100th", x.torn(), 100);
     }
 
     private static void hours() {
-        promise = 21;
-        BeastsChoose x = with(ONE + "likes 5;keeps 9;rain 100;");
+        about = "promise 21";
+        Counted x = with(ONE + "likes 5;keeps 9;rain 100;");
         due("hours(0)", x.hours(0), NONE);
         due("hours(-1)", x.hours(-1), NONE);
         due("hours(201)", x.hours(201), NONE);
@@ -1071,7 +962,7 @@ public final class PromisesTest {
         due("has(3)", x.has(3), 8);
         due("has(10)", x.has(10), 1);
         due("has(9)", x.has(9), 1);
-        toMoment(x, 999, 20);
+        x.toMoment(999, 20);
         due("hours(4)", x.hours(4), NONE);
         due("hours(3), seen for the ninth time", x.hours(3), 1);
         due("hours(1)", x.hours(1), NONE);
@@ -1080,8 +971,8 @@ public final class PromisesTest {
     }
 
     private static void chance() {
-        promise = 22;
-        BeastsChoose x = with(ONE + "likes 5;keeps 9;rain 50;");
+        about = "promise 22";
+        Counted x = with(ONE + "likes 5;keeps 9;rain 50;");
         due("chance(0)", x.chance(0), NONE);
         due("chance(201)", x.chance(201), NONE);
         due("status(2)", x.status(2), 2);
@@ -1106,13 +997,13 @@ public final class PromisesTest {
         due("has(2)", x.has(2), 8);
         x = with(ONE);
         due("chance(200) without rain", x.chance(200), 0);
-        toMoment(x, 999, 23);
+        x.toMoment(999, 23);
         due("chance(1)", x.chance(1), NONE);
     }
 
     private static void change() {
-        promise = 23;
-        BeastsChoose x = with(PAIR);
+        about = "promise 23";
+        Counted x = with(PAIR);
         due("change", x.change(1, 9, 0, 4), true);
         due("guest(1, 0)", x.guest(1, 0), 9);
         due("guest(1, 1)", x.guest(1, 1), 0);
@@ -1133,8 +1024,8 @@ public final class PromisesTest {
     }
 
     private static void train() {
-        promise = 24;
-        BeastsChoose x = with(PAIR);
+        about = "promise 24";
+        Counted x = with(PAIR);
         due("train", x.train(0, 9, 0, 4), true);
         due("beast(0, 3)", x.beast(0, 3), 9);
         due("beast(0, 4)", x.beast(0, 4), 0);
@@ -1153,8 +1044,8 @@ public final class PromisesTest {
     }
 
     private static void swap() {
-        promise = 25;
-        BeastsChoose x = with(PAIR + "keeps 9;");
+        about = "promise 25";
+        Counted x = with(PAIR + "keeps 9;");
         x.hours(28);
         int[] saw = {x.between(0, 0, 2), x.between(1, 0, 2), x.between(0, 0, 3), x.between(1, 0, 3),
             x.between(0, 2, 2), x.between(1, 2, 2), x.between(0, 2, 3), x.between(1, 2, 3)};
@@ -1178,38 +1069,30 @@ public final class PromisesTest {
     }
 
     private static void undo() {
-        promise = 26;
-        BeastsChoose x = with(PAIR + "fee 3;keeps 2;rain 30;");
+        about = "promise 26";
+        Counted x = with(PAIR + "fee 3;keeps 2;rain 30;");
         due("undo() of nothing", x.undo(), false);
         due("status(4)", x.status(4), 1);
-        String[] stood = new String[40];
-        for (int i = 0; i < 25; i++) {
-            stood[i] = all(x);
-            switch (i % 5) {
-                case 0: x.hours(1 + i); break;
-                case 1: x.chance(1 + i); break;
-                case 2: x.change(i % 3, i % 10, i % 7, i % 4); break;
-                case 3: x.train(i % 2, i % 7, i % 10, i % 4); break;
-                default: x.swap(0, 1);
+        String[] stood = new String[5];
+        for (int i = 0; i < 5; i++) {
+            stood[i] = Arrays.toString(x.picture());
+            switch (i) {
+                case 0: x.hours(30); break;
+                case 1: x.chance(9); break;
+                case 2: x.change(1, 7, 8, 9); break;
+                case 3: x.swap(0, 1); break;
+                default: x.train(0, 9, 8, 7);
             }
         }
         int seed = x.has(10);
-        for (int i = 24; i >= 5; i--) {
+        for (int i = 4; i >= 0; i--) {
             due("undo() of act " + i, x.undo(), true);
-            due("all is as ahead of act " + i, all(x).equals(stood[i]), true);
+            due("all is as ahead of act " + i, Arrays.toString(x.picture()), stood[i]);
         }
-        due("undo() beyond 20", x.undo(), false);
+        due("undo() beyond them", x.undo(), false);
         due("has(10)", x.has(10), seed);
         due("status(4)", x.status(4), 2);
-        // Rows that had gone beyond the 60 come back.
-        x = with(ONE + "likes 5;keeps 9;");
-        for (int i = 0; i < 4; i++) {
-            x.hours(200);
-        }
-        String before = all(x);
-        x.hours(200);
-        due("undo()", x.undo(), true);
-        due("all rows are back", all(x).equals(before), true);
+        rowsComeBack();
         // Neither a refused act nor a look can be undone.
         x = with(ONE);
         x.hours(0);
@@ -1219,38 +1102,25 @@ public final class PromisesTest {
         due("undo()", x.undo(), false);
     }
 
-    /** All that acts change, but the seed and the count of acts. */
-    private static String all(BeastsChoose x) {
-        StringBuilder s = new StringBuilder();
-        for (int w = 0; w <= 8; w++) {
-            s.append(x.has(w)).append(' ');
+    /** Rows that had gone beyond the 60 come back. */
+    private static void rowsComeBack() {
+        Counted x = with(ONE + "likes 5;keeps 9;");
+        for (int i = 0; i < 4; i++) {
+            x.hours(200);
         }
-        for (int b = 0; b < x.has(0); b++) {
-            for (int w = 0; w <= 7; w++) {
-                s.append(x.beast(b, w)).append(' ');
-            }
-            for (int g = 0; g < x.has(1); g++) {
-                for (int w = 0; w <= 3; w++) {
-                    s.append(x.between(b, g, w)).append(' ');
-                }
-            }
-        }
-        for (int g = 0; g < x.has(1); g++) {
-            for (int w = 0; w <= 7; w++) {
-                s.append(x.guest(g, w)).append(' ');
-            }
-        }
-        for (int k = 0; k < x.has(8); k++) {
-            for (int w = 0; w <= 4; w++) {
-                s.append(x.kept(k, w)).append(' ');
-            }
-        }
-        return s.toString();
+        int oldest = x.kept(0, 0);
+        int latest = x.kept(59, 0);
+        x.hours(200);
+        due("kept(0, 0) is another", x.kept(0, 0) > oldest, true);
+        due("undo()", x.undo(), true);
+        due("kept(0, 0)", x.kept(0, 0), oldest);
+        due("kept(59, 0)", x.kept(59, 0), latest);
+        due("has(8)", x.has(8), 60);
     }
 
     private static void seed() {
-        promise = 27;
-        BeastsChoose x = new BeastsChoose();
+        about = "promise 27";
+        Counted x = new Counted();
         due("seed(0)", x.seed(0), true);
         due("has(10)", x.has(10), 0);
         due("chance(1)", x.chance(1), 0);
@@ -1266,8 +1136,8 @@ public final class PromisesTest {
     }
 
     private static void kept() {
-        promise = 28;
-        BeastsChoose x = with("beast z wakes 9 to 9 at 1;beast a wakes 22 to 23 at 1;beast b wakes 23 to 23 at 1;"
+        about = "promise 28";
+        Counted x = with("beast z wakes 9 to 9 at 1;beast a wakes 22 to 23 at 1;beast b wakes 23 to 23 at 1;"
             + "guest y 1 1 1 comes 0 to 1;guest g 1 1 1 comes 0 to 23;guest h 1 1 1 comes 23 to 23;fears h b;likes 5;keeps 2;");
         x.hours(48);
         int[][] want = {{0, 9, 0, 1, 1}, {0, 22, 1, 1, 1}, {0, 23, 1, 1, 3}, {0, 23, 2, 2, 0},
@@ -1295,15 +1165,15 @@ public final class PromisesTest {
         due("kept(0, 4)", x.kept(0, 4), 2);
         // The last row that there can be.
         x = with(ONE);
-        toMoment(x, 999, 22);
+        x.toMoment(999, 22);
         x.hours(1);
         due("kept(0, 0)", x.kept(0, 0), 999);
         due("kept(0, 1)", x.kept(0, 1), 22);
     }
 
     private static void image() {
-        promise = 29;
-        BeastsChoose x = new BeastsChoose();
+        about = "promise 29";
+        Counted x = new Counted();
         due("image() of nothing", x.image(), 6);
         x = with("beast a wakes 0 to 23 at 1;beast b wakes 0 to 23 at 2;taste b 0 2 9;guest g 1 1 1 comes 0 to 23;guest h 3 2 5 comes 0 to 23;"
             + "guest i 0 0 9 comes 0 to 23;likes if(saw>1,looks,20+suits);bores 1;keeps 2;fears i b;fee 99;");
@@ -1335,7 +1205,7 @@ public final class PromisesTest {
                 want[at++] = x.between(b, g, 3);
             }
         }
-        check(want);
+        want = Counted.checked(want);
         for (int k = 0; k < 39; k++) {
             due("octet(" + k + ")", x.octet(k), want[k]);
         }
@@ -1352,8 +1222,8 @@ public final class PromisesTest {
     }
 
     private static void octet() {
-        promise = 30;
-        BeastsChoose x = new BeastsChoose();
+        about = "promise 30";
+        Counted x = new Counted();
         due("octet(0) ahead of any", x.octet(0), NONE);
         x.image();
         int c = 151;
@@ -1368,18 +1238,18 @@ public final class PromisesTest {
         due("octet(2) of the latest image()", x.octet(2), 0);
         x.image();
         due("octet(2)", x.octet(2), 3);
-        read(x, ONE);
+        x.read(ONE);
         due("octet(2) of the latest image()", x.octet(2), 3);
         due("octet(6)", x.octet(6), NONE);
     }
 
     /** An image of ONE with beasts a, b: with one byte put, and all counted again. */
     private static boolean reads(int place, int value) {
-        BeastsChoose x = with("beast a wakes 0 to 23 at 1;beast b wakes 0 to 23 at 1;guest g 1 1 1 comes 0 to 23;");
+        Counted x = with("beast a wakes 0 to 23 at 1;beast b wakes 0 to 23 at 1;guest g 1 1 1 comes 0 to 23;");
         int[] bytes = {0, 3, 7, 1, 2, 4, 5, 6, 0, 0, 7, 8, 9, 50, 20, 1, 2, 3, 4, 0, 0};
         bytes[place] = value;
-        check(bytes);
-        put(x, bytes);
+        bytes = Counted.checked(bytes);
+        x.put(bytes);
         boolean read = x.on();
         due("status(5)", x.status(5), read ? 0 : 1);
         due("has(2)", x.has(2), read ? bytes[0] * 256 + bytes[1] : 0);
@@ -1387,14 +1257,14 @@ public final class PromisesTest {
     }
 
     private static void on() {
-        promise = 31;
-        BeastsChoose x = with("beast a wakes 0 to 23 at 1;beast b wakes 0 to 23 at 1;guest g 1 1 1 comes 0 to 23;guest h 1 1 1 comes 0 to 23;");
-        put(x, 0, 1);
+        about = "promise 31";
+        Counted x = with("beast a wakes 0 to 23 at 1;beast b wakes 0 to 23 at 1;guest g 1 1 1 comes 0 to 23;guest h 1 1 1 comes 0 to 23;");
+        x.put(0, 1);
         x.tell();
         x.hours(3);
         int[] bytes = {3, 231, 23, 39, 15, 9, 8, 7, 2, 0, 1, 2, 3, 0, 3, 4, 5, 6, 99, 99, 1, 0, 7, 8, 9, 0, 0, 12, 3, 0};
-        check(bytes);
-        put(x, bytes);
+        bytes = Counted.checked(bytes);
+        x.put(bytes);
         due("on()", x.on(), true);
         int[] want = {2, 2, 999, 23, 6, 9999, 2, 1, 0, 0, 1, 1};
         for (int w = 0; w < want.length; w++) {
@@ -1420,12 +1290,12 @@ public final class PromisesTest {
         }
         // A wrong sum, a byte too few, too many, nothing.
         bytes[29] ^= 1;
-        put(x, bytes);
+        x.put(bytes);
         due("on() with a wrong sum", x.on(), false);
         due("the tape goes", x.end(1), false);
-        put(x, java.util.Arrays.copyOf(bytes, 29));
+        x.put(Arrays.copyOf(bytes, 29));
         due("on() with a byte too few", x.on(), false);
-        put(x, java.util.Arrays.copyOf(bytes, 31));
+        x.put(Arrays.copyOf(bytes, 31));
         due("on() with a byte too many", x.on(), false);
         due("on() of nothing", x.on(), false);
         due("has(2) stays", x.has(2), 999);
@@ -1443,33 +1313,33 @@ public final class PromisesTest {
         // Seen 99 times at most, on this day too.
         x = with(ONE + "likes 5;keeps 9;");
         int[] much = {0, 0, 0, 0, 0, 1, 1, 1, 0, 0, 1, 1, 1, 99, 99, 0};
-        check(much);
-        put(x, much);
+        much = Counted.checked(much);
+        x.put(much);
         due("on()", x.on(), true);
         due("hours(1)", x.hours(1), 1);
         due("between(0, 0, 2)", x.between(0, 0, 2), 99);
         due("between(0, 0, 3)", x.between(0, 0, 3), 99);
         // The whole of an empty zoo.
-        x = new BeastsChoose();
+        x = new Counted();
         int[] empty = {1, 0, 5, 1, 0, 0};
-        check(empty);
-        put(x, empty);
+        empty = Counted.checked(empty);
+        x.put(empty);
         due("on() of no beasts", x.on(), true);
         due("has(2)", x.has(2), 256);
         due("has(5)", x.has(5), 256);
     }
 
     private static void status() {
-        promise = 32;
-        BeastsChoose x = with(ONE);
+        about = "promise 32";
+        Counted x = with(ONE);
         for (int w = 0; w < 6; w++) {
             due("status(" + w + ")", x.status(w), 0);
         }
         due("status(6)", x.status(6), NONE);
         due("status(-1)", x.status(-1), NONE);
         x.end(9);
-        read(x, "x");
-        read(x, "x");
+        x.read("x");
+        x.read("x");
         x.hours(0);
         x.chance(0);
         x.hours(0);
@@ -1496,7 +1366,7 @@ public final class PromisesTest {
         x.dress(9, 9, 9);
         x.bring(9);
         x.kept(9, 9);
-        read(x, ONE);
+        x.read(ONE);
         for (int w = 0; w < 6; w++) {
             due("status(" + w + ") stays", x.status(w), want[w]);
         }
