@@ -105,7 +105,8 @@ final class ActCallBounds extends Answers {
 
     @Says(promise = 23, value = "false, refused (3), when that can't be, or all are so already.")
     static void changeRefused() {
-        int[][] none = {{0, -1, 1, 2}, {0, 10, 1, 2}, {0, 1, -1, 2}, {0, 1, 10, 2}, {0, 1, 2, -1}, {0, 1, 2, 10}, {0, LEAST, 1, 2}, {0, 1, 2, GREATEST},
+        int[][] none = {{0, -1, 1, 2}, {0, 10, 1, 2}, {0, 1, -1, 2}, {0, 1, 10, 2}, {0, 1, 2, -1}, {0, 1, 2, 10}, {0, LEAST, 1, 2},
+            {0, 1, 2, GREATEST},
             {2, 2, 2, 2}, {-1, 2, 2, 2}, {LEAST, 2, 2, 2}, {GREATEST, 2, 2, 2}, {0, 1, 1, 1}, {1, 0, 9, 3}};
         for (int[] n : none) {
             Counted x = with(TWO + "beast c wakes 0 to 1 at 1;");
@@ -133,7 +134,8 @@ final class ActCallBounds extends Answers {
 
     @Says(promise = 24, value = "false, refused (3), when that can't be, or all are so already.")
     static void trainRefused() {
-        int[][] none = {{0, -1, 1, 2}, {0, 10, 1, 2}, {0, 1, -1, 2}, {0, 1, 10, 2}, {0, 1, 2, -1}, {0, 1, 2, 10}, {0, LEAST, 1, 2}, {0, 1, 2, GREATEST},
+        int[][] none = {{0, -1, 1, 2}, {0, 10, 1, 2}, {0, 1, -1, 2}, {0, 1, 10, 2}, {0, 1, 2, -1}, {0, 1, 2, 10}, {0, LEAST, 1, 2},
+            {0, 1, 2, GREATEST},
             {2, 2, 2, 2}, {-1, 2, 2, 2}, {LEAST, 2, 2, 2}, {GREATEST, 2, 2, 2}, {0, 1, 1, 1}, {1, 0, 9, 3}};
         for (int[] n : none) {
             Counted x = with(TWO + "guest i 1 1 1 comes 0 to 1;");

@@ -293,7 +293,8 @@ final class CallBounds extends Answers {
 
     @Says(promise = 7, value = "Letter k (0 .. 5) of the NAME of a BEAST (kind 0), a GUEST (1): 1 .. 26;")
     static void letters() {
-        Counted x = with("beast azbycx wakes 0 to 1 at 1;beast m wakes 0 to 1 at 1;guest zzzzzz 1 1 1 comes 1 to 1;guest aaaaaa 1 1 1 comes 1 to 1;");
+        Counted x = with("beast azbycx wakes 0 to 1 at 1;beast m wakes 0 to 1 at 1;guest zzzzzz 1 1 1 comes 1 to 1;"
+            + "guest aaaaaa 1 1 1 comes 1 to 1;");
         row("letter(0, 0)", k -> x.letter(0, 0, k), 1, 26, 2, 25, 3, 24);
         row("letter(1, 0)", k -> x.letter(1, 0, k), 26, 26, 26, 26, 26, 26);
         row("letter(1, 1)", k -> x.letter(1, 1, k), 1, 1, 1, 1, 1, 1);
@@ -334,7 +335,8 @@ final class CallBounds extends Answers {
         due("letter(1, 3, 0)", x.letter(1, 3, 0), NONE);
     }
 
-    @Says(promise = 8, value = "Of a BEAST: 0 from which HOUR it is awake, 1 to which, 2 its PLACE, 3, 4, 5 its tastes, 6 whether it is awake now,")
+    @Says(promise = 8, value = "Of a BEAST: 0 from which HOUR it is awake, 1 to which, 2 its PLACE, 3, 4, 5 its tastes, "
+        + "6 whether it is awake now,")
     static void beastTells() {
         Counted x = with("beast a wakes 0 to 23 at 99;beast b wakes 1 to 1 at 0;taste a 0 9 5;");
         row("beast(0)", w -> x.beast(0, w), 0, 23, 99, 0, 9, 5, 1);
@@ -348,7 +350,8 @@ final class CallBounds extends Answers {
     @Says(promise = 8, value = "7 the GUEST whom it has KEPT (the first; NONE).")
     static void firstKept() {
         // h is kept in hour 1, g in hour 4, i by b in hour 1.
-        Counted x = with(beasts(2) + "guest g 1 1 1 comes 3 to 23;guest h 1 1 1 comes 0 to 23;guest i 1 1 1 comes 0 to 23;likes 5;keeps 2;");
+        Counted x = with(beasts(2) + "guest g 1 1 1 comes 3 to 23;guest h 1 1 1 comes 0 to 23;guest i 1 1 1 comes 0 to 23;"
+            + "likes 5;keeps 2;");
         due("beast(0, 7) at first", x.beast(0, 7), NONE);
         x.hours(1);
         due("beast(0, 7) of one seen", x.beast(0, 7), NONE);
@@ -375,7 +378,8 @@ final class CallBounds extends Answers {
         due("beast(1, 8)", x.beast(1, 8), NONE);
     }
 
-    @Says(promise = 9, value = "Of a GUEST: 0, 1, 2 LOOKS, SMELL, TALK, 3 from which HOUR he is there, 4 to which, 5 whom he fears (bits of BEASTS),")
+    @Says(promise = 9, value = "Of a GUEST: 0, 1, 2 LOOKS, SMELL, TALK, 3 from which HOUR he is there, 4 to which, 5 "
+        + "whom he fears (bits of BEASTS),")
     static void guestTells() {
         Counted x = with(beasts(6) + "guest g 0 9 5 comes 0 to 23;guest h 9 0 4 comes 7 to 7;guest i 1 1 1 comes 23 to 23;"
             + "fears g ba;fears h bf;fears i ba;fears i bb;fears i bc;fears i bd;fears i be;fears i bf;");
@@ -426,7 +430,8 @@ final class CallBounds extends Answers {
         due("guest(1, 8)", x.guest(1, 8), NONE);
     }
 
-    @Says(promise = 10, value = "Of a BEAST and a GUEST now: 0 what suits, 1 how it likes him, 2 how often it SAW him in all, 3 on this DAY.")
+    @Says(promise = 10, value = "Of a BEAST and a GUEST now: 0 what suits, 1 how it likes him, 2 how often it SAW him "
+        + "in all, 3 on this DAY.")
     static void betweenTells() {
         Counted x = with("beast a wakes 0 to 23 at 1;beast b wakes 9 to 9 at 1;taste a 9 9 9;taste b 0 0 2;"
             + "guest g 9 9 9 comes 0 to 23;guest h 4 4 4 comes 9 to 9;fears h a;keeps 9;");

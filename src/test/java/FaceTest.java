@@ -76,7 +76,8 @@ public final class FaceTest {
 
     /** Ahead of which calls the interface says what. */
     private static void parts(String text) {
-        String[][] parts = {{"ahead", "asks"}, {"tastes, rings, walks, registers", "tell"}, {"acts", "hours"}, {"images, refusals", "image"}};
+        String[][] parts = {{"ahead", "asks"}, {"tastes, rings, walks, registers", "tell"}, {"acts", "hours"},
+            {"images, refusals", "image"}};
         for (String[] part : parts) {
             Matcher m = Pattern.compile("// ---- " + part[0] + "\\s+public \\w+ " + part[1] + "\\(").matcher(text);
             must(m.find(), "the interface does not say \"---- " + part[0] + "\" ahead of " + part[1]);
@@ -118,8 +119,9 @@ public final class FaceTest {
 
     private static void source(String text) {
         String code = text.replaceAll("(?s)/\\*.*?\\*/", "").replaceAll("//[^\n]*", "").replaceAll("\"[^\"\n]*\"", "\"\"");
-        String[] banned = {"throw", "throws", "try", "catch", "synchronized", "assert", "import", "package", "java", "System\\.(?!arraycopy)",
-            "->", "::", "equals", "hashCode", "toString", "Exact", "protected", "volatile", "native", "var", "yield", "\\w+\\[\\]\\[\\]\\[\\]"};
+        String[] banned = {"throw", "throws", "try", "catch", "synchronized", "assert", "import", "package", "java",
+            "System\\.(?!arraycopy)", "->", "::", "equals", "hashCode", "toString", "Exact", "protected", "volatile", "native",
+            "var", "yield", "\\w+\\[\\]\\[\\]\\[\\]"};
         for (String b : banned) {
             Matcher m = Pattern.compile(b.matches("\\w+") ? "\\b" + b + "\\b" : b).matcher(code);
             must(!m.find(), "the source has " + b);

@@ -284,7 +284,8 @@ final class HourBounds extends Answers {
         due("kept(1, 4)", x.kept(1, 4), 2);
         due("guest(0, 7)", x.guest(0, 7), NONE);
         // What the others saw does not count.
-        x = with("beast a wakes 0 to 0 at 1;beast b wakes 1 to 1 at 1;beast c wakes 2 to 3 at 1;guest g 1 1 1 comes 0 to 23;likes 5;keeps 2;");
+        x = with("beast a wakes 0 to 0 at 1;beast b wakes 1 to 1 at 1;beast c wakes 2 to 3 at 1;guest g 1 1 1 comes 0 to 23;"
+            + "likes 5;keeps 2;");
         x.hours(3);
         due("has(7)", x.has(7), 0);
         x.hours(1);

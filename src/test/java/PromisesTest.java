@@ -623,7 +623,8 @@ public final class PromisesTest extends Answers {
 
     private static void alone() {
         about = "promise 12";
-        Counted x = with("beast a wakes 3 to 23 at 1;beast b wakes 1 to 2 at 1;guest g 1 1 1 comes 0 to 4;guest h 1 1 1 comes 4 to 5;likes 5;keeps 9;");
+        Counted x = with("beast a wakes 3 to 23 at 1;beast b wakes 1 to 2 at 1;guest g 1 1 1 comes 0 to 4;"
+            + "guest h 1 1 1 comes 4 to 5;likes 5;keeps 9;");
         due("alone(0)", x.alone(0), 6);
         due("alone(1)", x.alone(1), 0);
         due("alone(2)", x.alone(2), NONE);
@@ -673,7 +674,8 @@ public final class PromisesTest extends Answers {
         due("bring(0)", x.bring(0), 0);
         due("bring(1)", x.bring(1), NONE);
         // Sent back, kept.
-        x = with("beast a wakes 0 to 23 at 1;beast b wakes 1 to 23 at 1;taste b 2 2 2;guest g 1 1 1 comes 0 to 23;likes suits-saw*2;bores 2;keeps 2;");
+        x = with("beast a wakes 0 to 23 at 1;beast b wakes 1 to 23 at 1;taste b 2 2 2;guest g 1 1 1 comes 0 to 23;"
+            + "likes suits-saw*2;bores 2;keeps 2;");
         x.hours(1);
         due("bring(0), sent back", x.bring(0), NONE);
         due("bring(1)", x.bring(1), 0);
@@ -1175,7 +1177,8 @@ public final class PromisesTest extends Answers {
         about = "promise 29";
         Counted x = new Counted();
         due("image() of nothing", x.image(), 6);
-        x = with("beast a wakes 0 to 23 at 1;beast b wakes 0 to 23 at 2;taste b 0 2 9;guest g 1 1 1 comes 0 to 23;guest h 3 2 5 comes 0 to 23;"
+        x = with("beast a wakes 0 to 23 at 1;beast b wakes 0 to 23 at 2;taste b 0 2 9;guest g 1 1 1 comes 0 to 23;"
+            + "guest h 3 2 5 comes 0 to 23;"
             + "guest i 0 0 9 comes 0 to 23;likes if(saw>1,looks,20+suits);bores 1;keeps 2;fears i b;fee 99;");
         due("hours", x.hours(200) > 0, true);
         for (int i = 0; i < 4; i++) {

@@ -8,7 +8,8 @@ final class SearchCallBounds extends Answers {
     @Says(promise = 11, value = "For whom a BEAST ASKS in the n-th HOUR AHEAD (0: the HOUR that is now; 99 at most).")
     static void asks() {
         Counted x = with(beasts(2) + "guest g 1 1 1 comes 0 to 1;guest h 1 1 1 comes 1 to 23;fears g ba;fears g bb;fears h ba;fears h bb;");
-        int[][] want = {{0, 0, NONE}, {1, 0, 1}, {2, 1, NONE}, {23, 1, NONE}, {24, 0, NONE}, {25, 0, 1}, {98, 1, NONE}, {97, 0, 1}, {99, 1, NONE}};
+        int[][] want = {{0, 0, NONE}, {1, 0, 1}, {2, 1, NONE}, {23, 1, NONE}, {24, 0, NONE}, {25, 0, 1}, {98, 1, NONE}, {97, 0, 1},
+            {99, 1, NONE}};
         for (int[] w : want) {
             due("asks(0, " + w[0] + ")", x.asks(0, w[0]), w[1]);
             due("asks(1, " + w[0] + ")", x.asks(1, w[0]), w[2]);
