@@ -313,7 +313,7 @@ public final class BeastsChoose {
         remember();
         int rained = 0;
         for (int i = 0; i < n; i++) {
-            if (draw(100) < zoo.rain) {
+            if (drawOfHundred() < zoo.rain) {
                 rained++;
                 now.passHour();
             } else {
@@ -468,9 +468,9 @@ public final class BeastsChoose {
         return NONE;
     }
 
-    private int draw(int m) {
+    private int drawOfHundred() {
         seed = (1103515245 * seed + 12345) & 0x7fffffff;
-        return seed / 64 % m;
+        return seed / 64 % 100;
     }
 
     private void remember() {
@@ -890,7 +890,7 @@ public final class BeastsChoose {
             return operand >= 0 && operand < scene.length ? scene[operand] : 0;
         }
 
-        private static int joined(int operation, int a, int b) {
+        static int joined(int operation, int a, int b) {
             long result = 0;
             switch (operation) {
                 case '+': result = (long) a + b; break;
@@ -1507,10 +1507,9 @@ public final class BeastsChoose {
 
         int liking(Zoo zoo, State state, int beast, int guest) {
             look(state, beast, guest);
-            if (zoo.likes.length == 0) {
-                return Math.min(MOST_LIKING, scene[Formula.SUITS] / (1 + scene[Formula.SAW]));
-            }
-            return Math.max(0, Math.min(MOST_LIKING, zoo.likes.valueOf(scene)));
+            int sum = zoo.likes.length > 0 ? zoo.likes.valueOf(scene)
+                : Formula.joined('/', scene[Formula.SUITS], 1 + scene[Formula.SAW]);
+            return Math.max(0, Math.min(MOST_LIKING, sum));
         }
 
         private void look(State state, int beast, int guest) {

